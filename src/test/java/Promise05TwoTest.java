@@ -52,6 +52,8 @@ public final class Promise05TwoTest {
         gives(Codes.DIV, Codes.INT, intMin, -1, intMin);
         gives(Codes.DIV, Codes.LONG, intMin, -1, 2147483648L);
         gives(Codes.DIV, Codes.LONG, longMin, -1, longMin);
+        gives(Codes.DIV, Codes.INT, -7, 1, -7);
+        gives(Codes.DIV, Codes.LONG, longMin, 1, longMin);
         gives(Codes.REM, Codes.INT, -7, 2, -1);
         gives(Codes.REM, Codes.INT, 7, -2, 1);
         gives(Codes.REM, Codes.INT, intMin, -1, 0);
