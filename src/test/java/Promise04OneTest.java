@@ -143,9 +143,9 @@ public final class Promise04OneTest {
 
     private static void refusals() {
         for (int kind = 0; kind < 4; kind++) {
-            ShadowMachine x = new ShadowMachine();
-            x.input(1, kind, 0, 2);
             for (int operation = -3; operation < 45; operation++) {
+                ShadowMachine x = new ShadowMachine();
+                x.input(1, kind, 0, 2);
                 String before = Check.state(x);
                 boolean taken = isTaken(operation, kind);
                 int got = x.one(operation, 0, 1);

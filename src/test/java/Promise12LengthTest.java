@@ -1,13 +1,7 @@
 public final class Promise12LengthTest {
     public static void main(String[] args) {
+        everySize();
         ShadowMachine x = new ShadowMachine();
-        for (int n = 0; n <= 12; n++) {
-            x.constant(0, Codes.INT, n);
-            x.array(2, n % 8, 0);
-            x.input(5, Codes.DOUBLE, -1, 3);
-            Check.due("length", x.length(5, 2), ShadowMachine.OK);
-            Check.register(x, 5, Codes.INT, n, 64);
-        }
         x.input(0, Codes.INT, 4, 0);
         x.array(2, 4, 0);
         x.length(5, 2);
@@ -26,5 +20,16 @@ public final class Promise12LengthTest {
         }
         Check.holds("a refused length changes nothing", before.equals(Check.state(x)));
         Check.end();
+    }
+
+    private static void everySize() {
+        ShadowMachine x = new ShadowMachine();
+        for (int n = 0; n <= 12; n++) {
+            x.constant(0, Codes.INT, n);
+            x.array(2, n % 8, 0);
+            x.input(5, Codes.DOUBLE, -1, 3);
+            Check.due("length", x.length(5, 2), ShadowMachine.OK);
+            Check.register(x, 5, Codes.INT, n, 64);
+        }
     }
 }

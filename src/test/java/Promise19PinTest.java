@@ -1,11 +1,13 @@
 public final class Promise19PinTest {
     public static void main(String[] args) {
-        ShadowMachine x = new ShadowMachine();
-        Check.due("pin(0, 0)", x.pin(0, 0), ShadowMachine.NONE);
-        for (int n = 0; n < 40; n++) {
-            x.input(1, Codes.FLOAT, 0, n % 6);
-            x.two(Codes.ADD + n % 5, 2, 1, 1);
-            lastOnesAreKept(x, n);
+        Check.due("pin(0, 0)", new ShadowMachine().pin(0, 0), ShadowMachine.NONE);
+        for (int newest = 0; newest < 40; newest++) {
+            ShadowMachine x = new ShadowMachine();
+            for (int n = 0; n <= newest; n++) {
+                x.input(1, Codes.FLOAT, 0, n % 6);
+                x.two(Codes.ADD + n % 5, 2, 1, 1);
+            }
+            lastOnesAreKept(x, newest);
         }
         everyPinningCall();
         Check.end();

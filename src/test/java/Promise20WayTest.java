@@ -1,22 +1,27 @@
 public final class Promise20WayTest {
     public static void main(String[] args) {
-        ShadowMachine x = new ShadowMachine();
-        Check.due("way(0, 0)", x.way(0, 0), ShadowMachine.NONE);
-        for (int n = 0; n < 40; n++) {
-            x.input(1, Codes.INT, 1, n % 6);
-            if (n % 3 == 0) {
-                x.two(Codes.MUL, 1, 1, 1);
+        Check.due("way(0, 0)", new ShadowMachine().way(0, 0), ShadowMachine.NONE);
+        for (int newest = 0; newest < 40; newest++) {
+            ShadowMachine x = new ShadowMachine();
+            for (int n = 0; n <= newest; n++) {
+                takeWay(x, n);
             }
-            x.branch(n % 2, 0, 1);
-            x.branch(0, 0, 0);
-            lastOnesAreKept(x, n);
+            lastOnesAreKept(x, newest);
         }
-        Check.counts(x, 0, 40, 0, 1);
         Check.end();
     }
 
+    private static void takeWay(ShadowMachine x, int n) {
+        x.input(1, Codes.INT, 1, n % 6);
+        if (n % 3 == 0) {
+            x.two(Codes.MUL, 1, 1, 1);
+        }
+        x.branch(n % 2, 0, 1);
+        x.branch(0, 0, 0);
+    }
+
     private static void lastOnesAreKept(ShadowMachine x, int newest) {
-        Check.due("count(1)", x.count(1), newest + 1);
+        Check.counts(x, 0, newest + 1, 0, 1);
         for (int k = 0; k < 16 && k <= newest; k++) {
             int n = newest - k;
             Check.way(x, k, n % 2, 1 << n % 6, n % 3 == 0 ? 0 : 1);

@@ -4,12 +4,19 @@ public final class Promise21CountTest {
         pinsAndWays(x);
         exceptions(x);
         dependentRegisters();
+        refusals();
+        Check.end();
+    }
+
+    private static void refusals() {
+        ShadowMachine x = new ShadowMachine();
+        x.input(0, Codes.INT, 0, 0);
+        x.branch(0, 0, 0);
         String before = Check.state(x);
         for (int what : new int[] {-1, 4, Integer.MIN_VALUE, Integer.MAX_VALUE}) {
             Check.due("count(" + what + ")", x.count(what), ShadowMachine.REFUSED);
         }
         Check.holds("asking changes nothing", before.equals(Check.state(x)));
-        Check.end();
     }
 
     private static void pinsAndWays(ShadowMachine x) {

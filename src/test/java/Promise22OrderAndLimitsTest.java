@@ -3,13 +3,13 @@ public final class Promise22OrderAndLimitsTest {
     private static final int[] WILD = {Integer.MIN_VALUE, -65, -2, -1, 99, 1 << 20, Integer.MAX_VALUE};
 
     public static void main(String[] args) {
-        ShadowMachine x = busyMachine();
-        String before = Check.state(x);
         for (int n : WILD) {
+            ShadowMachine x = busyMachine();
+            String before = Check.state(x);
             none(x, n);
             refused(x, n);
+            Check.holds("wild numbers change nothing", before.equals(Check.state(x)));
         }
-        Check.holds("wild numbers change nothing", before.equals(Check.state(x)));
         constants();
         Check.end();
     }

@@ -3,10 +3,10 @@ import java.util.Arrays;
 import java.util.List;
 import java.util.Random;
 
-/** Runs of 512 calls drawn from fixed seeds, each answer held against PlainMachine's. */
+/** Runs of calls drawn from fixed seeds, each answer held against PlainMachine's; with the asking at the end 512 at most. */
 public final class RandomRunsTest {
-    private static final int RUNS = 6000;
-    private static final int CALLS = 512;
+    private static final int RUNS = 12000;
+    private static final int CALLS = 224;
     private static final long[] EDGES = {
         0, 1, 2, 3, 11, 12, 13, -1, -2, 31, 32, 63, 64, 127, 128, 255, 32767, 32768, 65535, Integer.MAX_VALUE, Integer.MIN_VALUE,
         Long.MAX_VALUE, Long.MIN_VALUE, 0x7F800000L, 0xFF800000L, 0x7F800001L, 0x7FC00000L, 0x00800000L, 0x7F7FFFFFL, 0x3F800000L,
