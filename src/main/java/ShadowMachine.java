@@ -481,6 +481,9 @@ public final class ShadowMachine {
         private static final int TO_BITS = 17;
         private static final int FROM_BITS = 18;
 
+        private static final long LEAST_INT = -0x80000000L;
+        private static final long GREATEST_INT = 0x7FFFFFFFL;
+
         private static final int[] CONVERTED_FROM = {
             INT, INT, INT, LONG, LONG, LONG, FLOAT, FLOAT, FLOAT, DOUBLE, DOUBLE, DOUBLE, INT, INT, INT
         };
@@ -563,7 +566,7 @@ public final class ShadowMachine {
         }
 
         private static long nearestInt(long value) {
-            return Math.max(Integer.MIN_VALUE, Math.min(Integer.MAX_VALUE, value));
+            return Math.max(LEAST_INT, Math.min(GREATEST_INT, value));
         }
     }
 
@@ -689,8 +692,8 @@ public final class ShadowMachine {
     }
 
     /**
-     * FLOAT and DOUBLE worked on by their BITS alone, with whole numbers, so that no bit depends on
-     * the floating numbers below.
+     * FLOAT and DOUBLE worked on by their BITS alone, with whole numbers: LANGUAGE.md leaves no way
+     * between a floating number and its bits, and no NaN.
      *
      * A finite number that is not 0 is its significand, of SIGNIFICAND_BITS bits in both formats,
      * times 2 to the power of its exponent.
@@ -699,6 +702,8 @@ public final class ShadowMachine {
         BITS32(24, -149, 0xFFFFFFFF80000000L),
         BITS64(53, -1074, 0x8000000000000000L);
 
+        private static final long LEAST_LONG = 0x8000000000000000L;
+        private static final long GREATEST_LONG = 0x7FFFFFFFFFFFFFFFL;
         private static final int SIGNIFICAND_BITS = 53;
         // room below a significand for what is shifted out, and above it for a carry
         private static final int SUM_ROOM = 9;
@@ -726,7 +731,7 @@ public final class ShadowMachine {
         }
 
         long withOneNan(long bits) {
-            return (bits & ~sign) > infinity ? nan : bits;
+            return isNan(bits) ? nan : bits;
         }
 
         long negated(long bits) {
@@ -760,7 +765,7 @@ public final class ShadowMachine {
             if (number == 0) {
                 return 0;
             }
-            if (number == Long.MIN_VALUE) {
+            if (number == LEAST_LONG) {
                 return rounded(true, 1, 1L << 62);
             }
             return rounded(number < 0, 0, Math.abs(number));
@@ -785,8 +790,8 @@ public final class ShadowMachine {
                 return 0;
             }
             int exponent = exponent(bits);
-            if (isInfinite(bits) || exponent > STEP) {
-                return isNegative(bits) ? Long.MIN_VALUE : Long.MAX_VALUE;
+            if (isInfinite(bits) || exponent > 63 - SIGNIFICAND_BITS) {
+                return isNegative(bits) ? LEAST_LONG : GREATEST_LONG;
             }
             if (exponent <= -SIGNIFICAND_BITS) {
                 return 0;
@@ -924,12 +929,12 @@ public final class ShadowMachine {
             if (above >= mostField - 1) {
                 return signed(negative, infinity);
             }
-            long kept = excess > 0 ? halvedEven(number, excess) : number << -excess;
+            long kept = excess > 0 ? shiftedToEven(number, excess) : number << -excess;
             // the leading bit of kept counts the field of the exponent up by one, and so does a carry
             return signed(negative, ((long) above << fractionBits) + kept);
         }
 
-        private static long halvedEven(long number, int places) {
+        private static long shiftedToEven(long number, int places) {
             if (places > 63) {
                 return 0;
             }

@@ -23,8 +23,7 @@ public final class LanguageRulesTest {
         "throw", "throws", "try", "catch", "finally", "synchronized", "assert", "float", "double", "import", "package", "protected", "Float",
         "Double", "Object", "Random", "Thread", "native", "volatile", "transient", "Exact", "->", "::");
     private static final Set<String> LIBRARY_CALLS = Set.of(
-        "System.arraycopy", "Math.max", "Math.min", "Math.abs", "Long.compare", "Long.numberOfLeadingZeros", "Long.MIN_VALUE",
-        "Long.MAX_VALUE", "Integer.MIN_VALUE", "Integer.MAX_VALUE");
+        "System.arraycopy", "Math.max", "Math.min", "Math.abs", "Long.compare", "Long.numberOfLeadingZeros");
     private static final int MOST_LINES_OF_A_METHOD = 60;
 
     public static void main(String[] args) throws IOException {
