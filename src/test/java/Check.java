@@ -2,15 +2,25 @@
 final class Check {
     private static int wrong = 0;
     private static int asked = 0;
+    private static String mark = "";
 
     private Check() {
+    }
+
+    /** What is asked from here on is told with these words before it. */
+    static void begin(String newMark) {
+        mark = newMark;
+    }
+
+    static int asked() {
+        return asked;
     }
 
     static void due(String call, long got, long want) {
         asked++;
         if (got != want) {
             wrong++;
-            System.out.println(call + " answered " + got + ", due is " + want);
+            System.out.println(mark + call + " answered " + got + ", due is " + want);
         }
     }
 
@@ -51,6 +61,10 @@ final class Check {
 
     /** All that can be asked of an object, as a text: to see that a call changed nothing. */
     static String state(ShadowMachine x) {
+        return stateWithoutExceptions(x) + x.count(2);
+    }
+
+    static String stateWithoutExceptions(ShadowMachine x) {
         StringBuilder all = new StringBuilder();
         for (int r = 0; r < 8; r++) {
             all.append(x.kind(r)).append(' ').append(x.bits(r)).append(' ').append(x.shadow(r)).append('\n');
@@ -66,7 +80,7 @@ final class Check {
             all.append(x.pin(k, 0)).append(' ').append(x.pin(k, 1)).append(' ');
             all.append(x.way(k, 0)).append(' ').append(x.way(k, 1)).append(' ').append(x.way(k, 2)).append('\n');
         }
-        for (int what = 0; what < 4; what++) {
+        for (int what : new int[] {0, 1, 3}) {
             all.append(x.count(what)).append(' ');
         }
         return all.toString();
