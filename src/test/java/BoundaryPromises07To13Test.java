@@ -58,6 +58,24 @@ public final class BoundaryPromises07To13Test {
         Check.cell(x, 2, 2, 0, 64);
     }
 
+    @Sentence(at = P7, says = "ARRAY h 0 .. 3 becomes a new one of a SORT 0 .. 7")
+    static void theOtherThreeFullOnesStay() {
+        for (int h = 0; h < 4; h++) {
+            ShadowMachine x = new ShadowMachine();
+            for (int other = 0; other < 4; other++) {
+                fill(x, other, 4, 12);
+            }
+            x.constant(0, Codes.INT, 12);
+            Check.due("array(" + h + ")", x.array(h, 4, 0), ShadowMachine.OK);
+            for (int other = 0; other < 4; other++) {
+                boolean fresh = other == h;
+                for (int i = 0; i < 12; i++) {
+                    Check.cell(x, other, i, fresh ? 0 : 10 * other + i, fresh ? 64 : 64 + (1 << i % 6));
+                }
+            }
+        }
+    }
+
     @Sentence(at = P7, says = CELLS)
     static void noCellsAndTwelve() {
         for (int sort = 0; sort < 8; sort++) {
@@ -104,7 +122,7 @@ public final class BoundaryPromises07To13Test {
     static void aSizeBelowZero() {
         for (int size : new int[] {-1, -2, MIN}) {
             Boundary.exception("array of " + size, () -> Given.busyWith(size), x -> x.array(1, 4, 0), ShadowMachine.NEGATIVE);
-            Boundary.exception("array of " + size, () -> Given.busyWith(size), x -> x.array(Given.NULL_ARRAY, 4, 0), ShadowMachine.NEGATIVE);
+            Boundary.exception("array of " + size, () -> Given.busyWith(size), x -> x.array(3, 4, 0), ShadowMachine.NEGATIVE);
         }
         Check.due("array of 0", Given.busyWith(0).array(1, 4, 0), ShadowMachine.OK);
     }
@@ -365,8 +383,8 @@ public final class BoundaryPromises07To13Test {
     static void nullIsToldForEveryKind() {
         for (int a = 0; a < 4; a++) {
             int value = a;
-            Boundary.exception("store of KIND " + a + " in null", Given::busy, x -> x.store(Given.NULL_ARRAY, 4, value), ShadowMachine.NULL);
-            Boundary.exception("the same at -1", () -> Given.busyWith(-1), x -> x.store(Given.NULL_ARRAY, 0, value), ShadowMachine.NULL);
+            Boundary.exception("store of KIND " + a + " in null", Given::busy, x -> x.store(3, 4, value), ShadowMachine.NULL);
+            Boundary.exception("the same at -1", () -> Given.busyWith(-1), x -> x.store(3, 0, value), ShadowMachine.NULL);
         }
     }
 

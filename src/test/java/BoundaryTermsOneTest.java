@@ -71,6 +71,7 @@ public final class BoundaryTermsOneTest {
     @Sentence(at = Sentence.TERMS, says = "1 i2f")
     static void i2fRoundsToTheNearestAndTiesToEven() {
         fromInt(Codes.I2F, 0, Codes.FLOAT, 0);
+        fromInt(Codes.I2F, -1, Codes.FLOAT, Codes.bitsOf(-1f));
         fromInt(Codes.I2F, 16777216, Codes.FLOAT, Codes.bitsOf(0x1p24f));
         fromInt(Codes.I2F, 16777217, Codes.FLOAT, Codes.bitsOf(0x1p24f));
         fromInt(Codes.I2F, 16777219, Codes.FLOAT, Codes.bitsOf(0x1.000004p24f));
@@ -84,6 +85,7 @@ public final class BoundaryTermsOneTest {
     @Sentence(at = Sentence.TERMS, says = "2 i2d")
     static void i2dRoundsNothing() {
         fromInt(Codes.I2D, 0, Codes.DOUBLE, 0);
+        fromInt(Codes.I2D, -1, Codes.DOUBLE, Codes.bitsOf(-1.0));
         fromInt(Codes.I2D, INT_MAX, Codes.DOUBLE, Codes.bitsOf(2147483647.0));
         fromInt(Codes.I2D, INT_MIN, Codes.DOUBLE, Codes.bitsOf(-2147483648.0));
     }
@@ -101,6 +103,7 @@ public final class BoundaryTermsOneTest {
     @Sentence(at = Sentence.TERMS, says = "4 l2f")
     static void l2fRoundsOnceFromTheLong() {
         fromLong(Codes.L2F, 0, Codes.FLOAT, 0);
+        fromLong(Codes.L2F, -1, Codes.FLOAT, Codes.bitsOf(-1f));
         fromLong(Codes.L2F, LONG_MAX, Codes.FLOAT, Codes.bitsOf(0x1p63f));
         fromLong(Codes.L2F, LONG_MIN, Codes.FLOAT, Codes.bitsOf(-0x1p63f));
         fromLong(Codes.L2F, LONG_MIN + 1, Codes.FLOAT, Codes.bitsOf(-0x1p63f));
@@ -112,6 +115,7 @@ public final class BoundaryTermsOneTest {
     @Sentence(at = Sentence.TERMS, says = "5 l2d")
     static void l2dRoundsAboveFiftyThreeBits() {
         fromLong(Codes.L2D, 0, Codes.DOUBLE, 0);
+        fromLong(Codes.L2D, -1, Codes.DOUBLE, Codes.bitsOf(-1.0));
         fromLong(Codes.L2D, (1L << 53) - 1, Codes.DOUBLE, Codes.bitsOf(9007199254740991.0));
         fromLong(Codes.L2D, (1L << 53) + 1, Codes.DOUBLE, Codes.bitsOf(0x1p53));
         fromLong(Codes.L2D, (1L << 53) + 3, Codes.DOUBLE, Codes.bitsOf(0x1.0000000000002p53));
@@ -211,6 +215,14 @@ public final class BoundaryTermsOneTest {
         fromDouble(Codes.D2F, 0.0, Codes.FLOAT, 0);
         fromDouble(Codes.D2F, 0x1.8p-149, Codes.FLOAT, 2);
         fromDouble(Codes.D2F, 0x1.ffffffp-127, Codes.FLOAT, Codes.bitsOf(Float.MIN_NORMAL));
+    }
+
+    @Sentence(at = Sentence.TERMS, says = "11 d2f")
+    static void d2fFarTooSmallIsZeroWithItsSign() {
+        for (int exponent = -151; exponent >= -1074; exponent--) {
+            fromDouble(Codes.D2F, Math.scalb(1.0, exponent), Codes.FLOAT, 0);
+            fromDouble(Codes.D2F, Math.scalb(-1.5, exponent), Codes.FLOAT, MINUS_FLOAT_ZERO);
+        }
     }
 
     @Sentence(at = Sentence.TERMS, says = "11 d2f")

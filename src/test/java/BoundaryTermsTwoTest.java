@@ -147,6 +147,42 @@ public final class BoundaryTermsTwoTest {
         floating(Codes.MUL, INFINITE_FLOAT, -1f, -INFINITE_FLOAT);
     }
 
+    @Sentence(at = Sentence.TERMS, says = "22 MUL")
+    static void mulOfANan() {
+        floating(Codes.MUL, Float.NaN, 2f, Float.NaN);
+        floating(Codes.MUL, 2f, Float.NaN, Float.NaN);
+        floating(Codes.MUL, Float.NaN, 0f, Float.NaN);
+        floating(Codes.MUL, -INFINITE_FLOAT, Float.NaN, Float.NaN);
+    }
+
+    @Sentence(at = Sentence.TERMS, says = "22 MUL")
+    static void mulAtAndBesideATie() {
+        Boundary.doubles(Codes.MUL, 1.5, 0x1.0000000000001p0, 0x1.8000000000002p0);
+        Boundary.doubles(Codes.MUL, 1.5, 0x1.0000000000003p0, 0x1.8000000000004p0);
+        // 2.5 and a little more in the last place
+        Boundary.doubles(Codes.MUL, 0x1.8000000000001p0, 0x1.0000000000001p0, 0x1.8000000000003p0);
+        Boundary.doubles(Codes.MUL, 0x1.0000000000001p0, 0x1.0000000000001p0, 0x1.0000000000002p0);
+        Boundary.doubles(Codes.MUL, 0x1.fffffffffffffp0, 0x1.fffffffffffffp0, 0x1.ffffffffffffep1);
+        Boundary.doubles(Codes.MUL, 0x1.fffffffffffffp0, 0x1.0000000000001p0, 2.0);
+        Boundary.doubles(Codes.MUL, 0.1, 0.1, 0.010000000000000002);
+        Boundary.floats(Codes.MUL, 1.5f, 0x1.000002p0f, 0x1.800004p0f);
+        Boundary.floats(Codes.MUL, 0x1.800002p0f, 0x1.000002p0f, 0x1.800006p0f);
+        Boundary.floats(Codes.MUL, 0x1.fffffep0f, 0x1.fffffep0f, 0x1.fffffcp1f);
+        Boundary.floats(Codes.MUL, 0x1.fffffep0f, 0x1.000002p0f, 2f);
+    }
+
+    @Sentence(at = Sentence.TERMS, says = "22 MUL")
+    static void mulFarTooSmall() {
+        for (int down = 1; down <= 1022; down++) {
+            Boundary.doubles(Codes.MUL, Double.MIN_VALUE, Math.scalb(-1.0, -down), -0.0);
+            Boundary.doubles(Codes.MUL, 0x1.fffffffffffffp-1022, Math.scalb(1.0, -down), Math.scalb(0x1.fffffffffffffp-1022, -down));
+        }
+        for (int down = 1; down <= 126; down++) {
+            Boundary.floats(Codes.MUL, Float.MIN_VALUE, Math.scalb(-1f, -down), -0f);
+            Boundary.floats(Codes.MUL, 0x1.fffffep-126f, Math.scalb(1f, -down), Math.scalb(0x1.fffffep-126f, -down));
+        }
+    }
+
     @Sentence(at = Sentence.TERMS, says = "23 DIV")
     static void divTruncatesTowardsZero() {
         ints(Codes.DIV, -7, 2, -3);
@@ -180,6 +216,26 @@ public final class BoundaryTermsTwoTest {
         Boundary.doubles(Codes.DIV, Double.MIN_VALUE, 2.0, 0.0);
         Boundary.doubles(Codes.DIV, Double.MIN_VALUE, 0x1.fffffffffffffp0, Double.MIN_VALUE);
         Boundary.doubles(Codes.DIV, 1.0, 3.0, 0x1.5555555555555p-2);
+    }
+
+    @Sentence(at = Sentence.TERMS, says = "23 DIV")
+    static void divALittleAboveATie() {
+        Boundary.doubles(Codes.DIV, 1.0, 75.0, 0x1.b4e81b4e81b4fp-7);
+        Boundary.doubles(Codes.DIV, 1.0, 91.0, 0x1.6816816816817p-7);
+        Boundary.doubles(Codes.DIV, 1.0, 99.0, 0x1.4afd6a052bf5bp-7);
+        Boundary.doubles(Codes.DIV, -1.0, 123.0, -0x1.0a6810a6810a7p-7);
+    }
+
+    @Sentence(at = Sentence.TERMS, says = "23 DIV")
+    static void divFarTooSmall() {
+        for (int up = 1; up <= 1023; up++) {
+            Boundary.doubles(Codes.DIV, Double.MIN_VALUE, Math.scalb(-1.0, up), -0.0);
+            Boundary.doubles(Codes.DIV, 0x1.fffffffffffffp-1022, Math.scalb(1.0, up), Math.scalb(0x1.fffffffffffffp-1022, -up));
+        }
+        for (int up = 1; up <= 127; up++) {
+            Boundary.floats(Codes.DIV, Float.MIN_VALUE, Math.scalb(-1f, up), -0f);
+            Boundary.floats(Codes.DIV, 0x1.fffffep-126f, Math.scalb(1f, up), Math.scalb(0x1.fffffep-126f, -up));
+        }
     }
 
     @Sentence(at = Sentence.TERMS, says = "24 REM")
